@@ -826,13 +826,13 @@ public final class GuardDesk {
     private static final class Watch {
         private static final int STATE_BITS = 3 * MAX_POSTS;
         private static final int ROWS = (1 << STATE_BITS) / 64;
-        /** No posts at all need a walk of more than 184 states, or 5826 steps (WatchTest has all). */
-        private static final int MAX_WALK = 512;
+        /** No choice of posts needs more than 184 states, or 5826 steps: WatchTest has them all. */
+        private static final int MAX_WALK = 256;
         private static final int MAX_STEPS = 1000000;
 
         private final Posts madeFor = new Posts();
         private final long[] dead = new long[ROWS];
-        private final long[] open = new long[ROWS];
+        private final long[] met = new long[ROWS];
         private final int[] states = new int[MAX_WALK];
         private final int[] visits = new int[MAX_WALK];
         /** The visits are size long, and go on from roundStart; 0 if there is no watch. */
@@ -845,7 +845,7 @@ public final class GuardDesk {
             }
             madeFor.copyFrom(posts);
             Arrays.fill(dead, 0L);
-            Arrays.fill(open, 0L);
+            Arrays.fill(met, 0L);
             size = 0;
             push(fullState());
             boolean closed = false;
@@ -872,7 +872,6 @@ public final class GuardDesk {
             visits[top]++;
             if (visits[top] >= madeFor.size) {
                 mark(dead, state);
-                unmark(open, state);
                 size--;
                 return false;
             }
@@ -880,7 +879,8 @@ public final class GuardDesk {
             if (next < 0 || isMarked(dead, next)) {
                 return false;
             }
-            if (isMarked(open, next)) {
+            // Met and not dead: it still stands on the walk.
+            if (isMarked(met, next)) {
                 roundStart = walkPlaceOf(next);
                 return true;
             }
@@ -892,7 +892,7 @@ public final class GuardDesk {
             if (size >= MAX_WALK) {
                 return;
             }
-            mark(open, state);
+            mark(met, state);
             states[size] = state;
             visits[size] = -1;
             size++;
@@ -933,10 +933,6 @@ public final class GuardDesk {
 
         private static void mark(long[] rows, int state) {
             rows[state >> 6] |= 1L << (state & 63);
-        }
-
-        private static void unmark(long[] rows, int state) {
-            rows[state >> 6] &= ~(1L << (state & 63));
         }
     }
 

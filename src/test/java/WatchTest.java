@@ -73,6 +73,10 @@ public final class WatchTest {
         x.post(2);
         x.post(2);
         row(x, 0, 1, 0, 1, 0, 1);
+        x.every(0, 1);
+        row(x, Due.NONE, Due.NONE);
+        x.every(0, 2);
+        row(x, 0, 1, 0, 1, 0, 1);
         x.every(1, 3);
         row(x, 0, 0, 1, 0, 0, 1);
         x.keep();
