@@ -126,7 +126,7 @@ public final class WatchTest {
     }
 
     /** Strikes out all states without an end, from the dead ones back; the desk walks ahead. */
-    private static int[] watch(int[] every) {
+    static int[] watch(int[] every) {
         int n = every.length;
         int[] width = new int[n + 1];
         width[0] = 1;
