@@ -16,7 +16,11 @@ final class Document {
 
     /** Whether a section, told as "Terms" or "Promise 7", has these words. */
     static boolean says(String section, String words) {
-        return SECTIONS.getOrDefault(section, "").contains(words);
+        return text(section).contains(words);
+    }
+
+    static String text(String section) {
+        return SECTIONS.getOrDefault(section, "");
     }
 
     private static Map<String, String> read() {

@@ -23,6 +23,8 @@ public final class FaceTest {
 
     public static void main(String[] args) throws Exception {
         members();
+        faceOfDocument();
+        headings();
         source();
         newObject();
         DUE.end();
@@ -79,9 +81,53 @@ public final class FaceTest {
         }
     }
 
-    private static void source() throws Exception {
+    /** The list above is the document's, and the class has its calls in this order. */
+    private static void faceOfDocument() throws Exception {
+        String source = sourceText();
+        int before = -1;
+        int i = 0;
+        Matcher line = Pattern.compile("public int \\w+\\([^)]*\\)").matcher(
+            Document.text("The public face"));
+        while (line.find()) {
+            String call = line.group();
+            String types = call.substring("public int ".length()).replaceAll("(int|boolean) \\w+", "$1");
+            DUE.holds("call " + i + " of the document's face is " + types,
+                i < FACE.length && FACE[i].equals(types.replace(", ", ",")));
+            int at = source.indexOf(call + " {");
+            DUE.holds(call + " stands in its place", at > before);
+            before = at;
+            i++;
+        }
+        DUE.is("calls of the document's face", i, FACE.length);
+    }
+
+    /** "Ahead of the calls .. the interface says: ---- targets." */
+    private static void headings() throws Exception {
+        String source = sourceText();
+        Matcher heading = Pattern.compile("Ahead of the calls (.*) the interface says: (---- .*)\\.").matcher(
+            Document.text("Terms"));
+        int headings = 0;
+        while (heading.find()) {
+            int at = source.indexOf("// " + heading.group(2) + "\n");
+            DUE.holds("the class says " + heading.group(2), at >= 0);
+            int next = source.indexOf("// ---- ", at + 1);
+            String part = source.substring(Math.max(at, 0), next < 0 ? source.length() : next);
+            for (String name : heading.group(1).replace("`", "").split(", ")) {
+                DUE.holds(name + " stands behind " + heading.group(2),
+                    part.contains("public int " + name + "("));
+            }
+            headings++;
+        }
+        DUE.is("headings of the document", headings, 8);
+    }
+
+    private static String sourceText() throws Exception {
         byte[] bytes = Files.readAllBytes(Paths.get("src/main/java/GuardDesk.java"));
-        String text = new String(bytes, StandardCharsets.ISO_8859_1);
+        return new String(bytes, StandardCharsets.ISO_8859_1);
+    }
+
+    private static void source() throws Exception {
+        String text = sourceText();
         String code = text.replaceAll("(?s)/\\*.*?\\*/", "").replaceAll("//[^\n]*", "");
         String[] words = {"throw", "throws", "try", "catch", "finally", "synchronized", "assert",
             "package", "Object", "HashMap", "Random", "Thread", "hashCode", "toString"};

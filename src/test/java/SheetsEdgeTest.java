@@ -113,6 +113,21 @@ public final class SheetsEdgeTest {
         for (int v : ints) {
             narrows(2, v, v);
         }
+        lowNumbers();
+    }
+
+    /** What was in a row of ints is no finding, be it as low: it is told, written over, not counted. */
+    private static void lowNumbers() {
+        int[] low = {-1000000001, Due.BAD, Due.NONE, Due.NOTHING, Due.PLACE, Due.SORT, Due.SIZE, MIN};
+        GuardDesk x = row(2, 1);
+        int was = 0;
+        for (int v : low) {
+            DUE.is("write(0, 0, " + v + ")", x.write(0, 0, v), was);
+            was = v;
+        }
+        DUE.is("write(0, 0, 5)", x.write(0, 0, 5), MIN);
+        DUE.is("write(0, 0, 0)", x.write(0, 0, 0), 5);
+        DUE.is("count(6)", x.count(6), 0);
     }
 
     private static void writePlaces() {
